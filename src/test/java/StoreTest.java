@@ -1,4 +1,5 @@
 import java.lang.reflect.Field;
+import java.util.Arrays;
 
 /**
  * Promise 17, and that the host store always has room. No call can bring the store into a state
@@ -120,6 +121,11 @@ public final class StoreTest {
         ints(x, "l1Entries")[ACTIVE_L1 + 2] = -7;
         ints(x, "l1Entries")[ACTIVE_L1 + 3] = 5;
         Due.due("check() with entries that are not live", x.check(), 0);
+        // A table that a dead entry names too is live through the active image's.
+        QcowImage y = new QcowImage(1);
+        y.write(0, 1);
+        ints(y, "l1Entries")[0] = tableOf(y, 0) + 1;
+        Due.due("check() with a live table that a dead entry names", y.check(), 0);
     }
 
     private static void checkChangesNothing() throws ReflectiveOperationException {
@@ -130,9 +136,9 @@ public final class StoreTest {
         int[] l1Before = ints(x, "l1Entries").clone();
         Due.due("check()", x.check(), 1);
         Due.due("check() again", x.check(), 1);
-        Due.due("the counts stay", java.util.Arrays.equals(countsBefore, counts(x)), true);
-        Due.due("the host words stay", java.util.Arrays.equals(wordsBefore, ints(x, "hostWords")), true);
-        Due.due("the L1 tables stay", java.util.Arrays.equals(l1Before, ints(x, "l1Entries")), true);
+        Due.due("the counts stay", Arrays.equals(countsBefore, counts(x)), true);
+        Due.due("the host words stay", Arrays.equals(wordsBefore, ints(x, "hostWords")), true);
+        Due.due("the L1 tables stay", Arrays.equals(l1Before, ints(x, "l1Entries")), true);
     }
 
     private static void emptiedStore() throws ReflectiveOperationException {
