@@ -50,13 +50,16 @@ public final class QcowImage {
     }
 
     public boolean discard(int cluster) {
-        if (!isGuestCluster(cluster) || dataEntry(ACTIVE, cluster) == 0) {
+        if (!isGuestCluster(cluster)) {
+            return false;
+        }
+        int entry = dataEntry(ACTIVE, cluster);
+        if (!namesHostCluster(entry)) {
             return false;
         }
         int table = unsharedTable(cluster / L2_ENTRIES);
-        int position = table * CLUSTER_WORDS + cluster % L2_ENTRIES;
-        storedCounts[hostWords[position] - 1]--;
-        hostWords[position] = 0;
+        hostWords[table * CLUSTER_WORDS + cluster % L2_ENTRIES] = 0;
+        storedCounts[entry - 1]--;
         return true;
     }
 
@@ -73,13 +76,13 @@ public final class QcowImage {
     }
 
     public boolean isAllocated(int cluster) {
-        return isGuestCluster(cluster) && dataEntry(ACTIVE, cluster) != 0;
+        return isGuestCluster(cluster) && isAllocatedIn(ACTIVE, cluster);
     }
 
     public int allocatedCount() {
         int count = 0;
         for (int cluster = 0; cluster < l1Size * L2_ENTRIES; cluster++) {
-            if (dataEntry(ACTIVE, cluster) != 0) {
+            if (isAllocatedIn(ACTIVE, cluster)) {
                 count++;
             }
         }
@@ -122,14 +125,14 @@ public final class QcowImage {
     }
 
     public boolean isSnapshotAllocated(int slot, int cluster) {
-        return holdsSnapshot(slot) && isGuestCluster(cluster) && dataEntry(slot, cluster) != 0;
+        return holdsSnapshot(slot) && isGuestCluster(cluster) && isAllocatedIn(slot, cluster);
     }
 
     public int commit() {
         int copied = 0;
         for (int cluster = 0; cluster < l1Size * L2_ENTRIES; cluster++) {
             int entry = dataEntry(ACTIVE, cluster);
-            if (entry != 0) {
+            if (namesHostCluster(entry)) {
                 copyToBacking(entry - 1, cluster);
                 copied++;
             }
@@ -165,17 +168,28 @@ public final class QcowImage {
         return isSlot(slot) && viewExists[slot];
     }
 
+    // An entry that is neither 0 nor in range is one that check() reports; no
+    // call makes one, and none may be led outside the store by it.
+    private boolean namesHostCluster(int entry) {
+        return entry > 0 && entry <= HOST_CLUSTERS;
+    }
+
     private int dataEntry(int view, int cluster) {
-        int tableEntry = l1Entries[view * MAX_L1_SIZE + cluster / L2_ENTRIES];
-        if (tableEntry == 0) {
+        int entry = l1Entries[view * MAX_L1_SIZE + cluster / L2_ENTRIES];
+        if (!namesHostCluster(entry)) {
             return 0;
         }
-        return hostWords[(tableEntry - 1) * CLUSTER_WORDS + cluster % L2_ENTRIES];
+        return hostWords[(entry - 1) * CLUSTER_WORDS + cluster % L2_ENTRIES];
+    }
+
+    private boolean isAllocatedIn(int view, int cluster) {
+        int entry = dataEntry(view, cluster);
+        return namesHostCluster(entry);
     }
 
     private int wordInView(int view, int addr) {
         int entry = dataEntry(view, addr / CLUSTER_WORDS);
-        if (entry == 0) {
+        if (!namesHostCluster(entry)) {
             return backing[addr];
         }
         return hostWords[(entry - 1) * CLUSTER_WORDS + addr % CLUSTER_WORDS];
@@ -186,15 +200,16 @@ public final class QcowImage {
     private int unsharedTable(int l1Index) {
         int position = ACTIVE * MAX_L1_SIZE + l1Index;
         int entry = l1Entries[position];
-        if (entry != 0 && storedCounts[entry - 1] == 1) {
+        boolean named = namesHostCluster(entry);
+        if (named && storedCounts[entry - 1] == 1) {
             return entry - 1;
         }
         int table = takeHostCluster();
-        if (entry == 0) {
-            clearTable(table);
-        } else {
+        if (named) {
             copyTable(entry - 1, table);
             storedCounts[entry - 1]--;
+        } else {
+            clearTable(table);
         }
         l1Entries[position] = table + 1;
         return table;
@@ -205,15 +220,16 @@ public final class QcowImage {
     private int unsharedData(int table, int cluster) {
         int position = table * CLUSTER_WORDS + cluster % L2_ENTRIES;
         int entry = hostWords[position];
-        if (entry != 0 && storedCounts[entry - 1] == 1) {
+        boolean named = namesHostCluster(entry);
+        if (named && storedCounts[entry - 1] == 1) {
             return entry - 1;
         }
         int data = takeHostCluster();
-        if (entry == 0) {
-            copyFromBacking(cluster, data);
-        } else {
+        if (named) {
             copyHostCluster(entry - 1, data);
             storedCounts[entry - 1]--;
+        } else {
+            copyFromBacking(cluster, data);
         }
         hostWords[position] = data + 1;
         return data;
@@ -241,7 +257,7 @@ public final class QcowImage {
         copyHostCluster(from, to);
         for (int i = 0; i < L2_ENTRIES; i++) {
             int entry = hostWords[to * CLUSTER_WORDS + i];
-            if (entry != 0) {
+            if (namesHostCluster(entry)) {
                 storedCounts[entry - 1]++;
             }
         }
@@ -271,7 +287,7 @@ public final class QcowImage {
         for (int i = 0; i < l1Size; i++) {
             int entry = l1Entries[from * MAX_L1_SIZE + i];
             l1Entries[to * MAX_L1_SIZE + i] = entry;
-            if (entry != 0) {
+            if (namesHostCluster(entry)) {
                 storedCounts[entry - 1]++;
             }
         }
@@ -281,7 +297,7 @@ public final class QcowImage {
         for (int i = 0; i < l1Size; i++) {
             int position = view * MAX_L1_SIZE + i;
             int entry = l1Entries[position];
-            if (entry != 0) {
+            if (namesHostCluster(entry)) {
                 l1Entries[position] = 0;
                 releaseTable(entry - 1);
             }
@@ -296,7 +312,7 @@ public final class QcowImage {
         }
         for (int i = 0; i < L2_ENTRIES; i++) {
             int entry = hostWords[table * CLUSTER_WORDS + i];
-            if (entry != 0) {
+            if (namesHostCluster(entry)) {
                 storedCounts[entry - 1]--;
             }
         }
@@ -316,8 +332,7 @@ public final class QcowImage {
         int tables = 0;
         for (int position = 0; position < ALL_L1_ENTRIES; position++) {
             int entry = l1Entries[position];
-            if (isLiveL1Entry(position) && entry != 0 && !isStray(entry)
-                    && !isNamedBefore(position)) {
+            if (isLiveL1Entry(position) && namesHostCluster(entry) && !isNamedBefore(position)) {
                 tables |= 1 << position;
             }
         }

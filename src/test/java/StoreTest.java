@@ -1,4 +1,3 @@
-import java.lang.reflect.Field;
 import java.util.Arrays;
 
 /**
@@ -6,8 +5,6 @@ import java.util.Arrays;
  * in which check() answers anything but 0, so these tests spoil the private tables by hand.
  */
 public final class StoreTest {
-    private static final int ACTIVE_L1 = 16;
-
     public static void main(String[] args) throws ReflectiveOperationException {
         countsOfSharing();
         spoiledCounts();
@@ -18,21 +15,8 @@ public final class StoreTest {
         checkChangesNothing();
         emptiedStore();
         fullStore();
+        Due.holds("LANGUAGE.md, rule 7", "No call may ever throw, in any state", StoreTest::spoiledStore);
         Due.end();
-    }
-
-    private static int[] ints(QcowImage x, String name) throws ReflectiveOperationException {
-        Field field = QcowImage.class.getDeclaredField(name);
-        field.setAccessible(true);
-        return (int[]) field.get(x);
-    }
-
-    private static int[] counts(QcowImage x) throws ReflectiveOperationException {
-        return ints(x, "storedCounts");
-    }
-
-    private static int tableOf(QcowImage x, int l1Index) throws ReflectiveOperationException {
-        return ints(x, "l1Entries")[ACTIVE_L1 + l1Index] - 1;
     }
 
     /** An image whose active L1 and two snapshots share a table with one data cluster. */
@@ -46,24 +30,24 @@ public final class StoreTest {
 
     private static void countsOfSharing() throws ReflectiveOperationException {
         QcowImage x = shared();
-        int table = tableOf(x, 0);
-        int data = ints(x, "hostWords")[4 * table] - 1;
-        Due.due("count of a table that three views share", counts(x)[table], 3);
-        Due.due("count of its data cluster", counts(x)[data], 1);
+        int table = Store.tableOf(x, 0);
+        int data = Store.words(x)[4 * table] - 1;
+        Due.due("count of a table that three views share", Store.counts(x)[table], 3);
+        Due.due("count of its data cluster", Store.counts(x)[data], 1);
         x.write(4, 2);
-        Due.due("count of the table after a copy", counts(x)[table], 2);
-        Due.due("count of the data cluster in two tables", counts(x)[data], 2);
+        Due.due("count of the table after a copy", Store.counts(x)[table], 2);
+        Due.due("count of the data cluster in two tables", Store.counts(x)[data], 2);
         Due.due("check()", x.check(), 0);
     }
 
     private static void spoiledCounts() throws ReflectiveOperationException {
         for (int host = 0; host < 128; host++) {
             QcowImage x = shared();
-            counts(x)[host]++;
+            Store.counts(x)[host]++;
             Due.due("check() with a count too high at " + host, x.check(), 1);
-            counts(x)[host] -= 2;
+            Store.counts(x)[host] -= 2;
             Due.due("check() with a count too low at " + host, x.check(), 1);
-            counts(x)[127 - host] += 5;
+            Store.counts(x)[127 - host] += 5;
             Due.due("check() with two wrong counts", x.check(), 2);
         }
     }
@@ -72,18 +56,18 @@ public final class StoreTest {
         int[] strays = {-1, 129, Integer.MIN_VALUE, Integer.MAX_VALUE};
         for (int stray : strays) {
             QcowImage x = shared();
-            ints(x, "l1Entries")[ACTIVE_L1 + 1] = stray;
+            Store.l1(x)[Store.ACTIVE_L1 + 1] = stray;
             Due.due("check() with L1 entry " + stray, x.check(), 1);
-            ints(x, "l1Entries")[1] = stray;
+            Store.l1(x)[1] = stray;
             Due.due("check() with two L1 entries " + stray, x.check(), 2);
             // The table is then named once less than its count says.
-            ints(x, "l1Entries")[0] = stray;
+            Store.l1(x)[0] = stray;
             Due.due("check() with a lost table and " + stray, x.check(), 4);
         }
         QcowImage x = shared();
-        ints(x, "l1Entries")[ACTIVE_L1 + 1] = 128;
+        Store.l1(x)[Store.ACTIVE_L1 + 1] = 128;
         Due.due("check() with the last host cluster named", x.check(), 1);
-        counts(x)[127] = 1;
+        Store.counts(x)[127] = 1;
         Due.due("check() with the last host cluster counted", x.check(), 0);
     }
 
@@ -91,54 +75,54 @@ public final class StoreTest {
         int[] strays = {-1, 129, Integer.MIN_VALUE, Integer.MAX_VALUE};
         for (int stray : strays) {
             QcowImage x = shared();
-            int table = tableOf(x, 0);
-            ints(x, "hostWords")[4 * table + 3] = stray;
+            int table = Store.tableOf(x, 0);
+            Store.words(x)[4 * table + 3] = stray;
             Due.due("check() with L2 entry " + stray, x.check(), 1);
-            ints(x, "hostWords")[4 * table] = stray;
+            Store.words(x)[4 * table] = stray;
             Due.due("check() with a lost data cluster and " + stray, x.check(), 3);
         }
         QcowImage x = shared();
-        ints(x, "hostWords")[4 * tableOf(x, 0) + 1] = 128;
+        Store.words(x)[4 * Store.tableOf(x, 0) + 1] = 128;
         Due.due("check() with the last host cluster as data", x.check(), 1);
-        counts(x)[127] = 1;
+        Store.counts(x)[127] = 1;
         Due.due("check() with the last host cluster counted", x.check(), 0);
     }
 
     private static void tablesOfTables() throws ReflectiveOperationException {
         QcowImage x = shared();
-        int table = tableOf(x, 0);
-        ints(x, "hostWords")[4 * table + 1] = table + 1;
+        int table = Store.tableOf(x, 0);
+        Store.words(x)[4 * table + 1] = table + 1;
         Due.due("check() with a table that names itself", x.check(), 1);
-        counts(x)[table] = 4;
+        Store.counts(x)[table] = 4;
         Due.due("check() with that naming counted", x.check(), 0);
     }
 
     private static void deadTablesDoNotCount() throws ReflectiveOperationException {
         QcowImage x = shared();
         // Slot 1 holds no snapshot and the L1 tables have two entries.
-        ints(x, "l1Entries")[4] = 1;
-        ints(x, "l1Entries")[5] = 999;
-        ints(x, "l1Entries")[ACTIVE_L1 + 2] = -7;
-        ints(x, "l1Entries")[ACTIVE_L1 + 3] = 5;
+        Store.l1(x)[4] = 1;
+        Store.l1(x)[5] = 999;
+        Store.l1(x)[Store.ACTIVE_L1 + 2] = -7;
+        Store.l1(x)[Store.ACTIVE_L1 + 3] = 5;
         Due.due("check() with entries that are not live", x.check(), 0);
         // A table that a dead entry names too is live through the active image's.
         QcowImage y = new QcowImage(1);
         y.write(0, 1);
-        ints(y, "l1Entries")[0] = tableOf(y, 0) + 1;
+        Store.l1(y)[0] = Store.tableOf(y, 0) + 1;
         Due.due("check() with a live table that a dead entry names", y.check(), 0);
     }
 
     private static void checkChangesNothing() throws ReflectiveOperationException {
         QcowImage x = shared();
-        counts(x)[100] = 3;
-        int[] countsBefore = counts(x).clone();
-        int[] wordsBefore = ints(x, "hostWords").clone();
-        int[] l1Before = ints(x, "l1Entries").clone();
+        Store.counts(x)[100] = 3;
+        int[] countsBefore = Store.counts(x).clone();
+        int[] wordsBefore = Store.words(x).clone();
+        int[] l1Before = Store.l1(x).clone();
         Due.due("check()", x.check(), 1);
         Due.due("check() again", x.check(), 1);
-        Due.due("the counts stay", Arrays.equals(countsBefore, counts(x)), true);
-        Due.due("the host words stay", Arrays.equals(wordsBefore, ints(x, "hostWords")), true);
-        Due.due("the L1 tables stay", Arrays.equals(l1Before, ints(x, "l1Entries")), true);
+        Due.due("the counts stay", Arrays.equals(countsBefore, Store.counts(x)), true);
+        Due.due("the host words stay", Arrays.equals(wordsBefore, Store.words(x)), true);
+        Due.due("the L1 tables stay", Arrays.equals(l1Before, Store.l1(x)), true);
     }
 
     private static void emptiedStore() throws ReflectiveOperationException {
@@ -149,7 +133,7 @@ public final class StoreTest {
         }
         x.commit();
         for (int host = 0; host < 128; host++) {
-            Due.due("count of host cluster " + host + " in an emptied store", counts(x)[host], 0);
+            Due.due("count of host cluster " + host + " in an emptied store", Store.counts(x)[host], 0);
         }
     }
 
@@ -200,5 +184,35 @@ public final class StoreTest {
             }
             x.snapshotCreate(slot);
         }
+    }
+
+    /** No call leads to such a store, but none may go astray in one. */
+    private static void spoiledStore() throws Exception {
+        int[] entries = {Integer.MIN_VALUE, -1, 129, 1000, Integer.MAX_VALUE};
+        States.each((state, maker) -> {
+            for (int entry : entries) {
+                QcowImage tables = maker.make();
+                Arrays.fill(Store.l1(tables), entry);
+                callAll(state, tables);
+                QcowImage data = maker.make();
+                Arrays.fill(Store.words(data), entry);
+                callAll(state, data);
+                QcowImage counts = maker.make();
+                Arrays.fill(Store.counts(counts), entry);
+                callAll(state, counts);
+            }
+        });
+    }
+
+    private static void callAll(String state, QcowImage x) {
+        for (int n = -1; n <= 64; n++) {
+            for (Call call : Call.asking(n)) {
+                call.on(x);
+            }
+            for (Call call : Call.changing(n)) {
+                call.on(x);
+            }
+        }
+        Due.due(state + "the spoiled image still answers", x.guestWords() % 16, 0);
     }
 }
