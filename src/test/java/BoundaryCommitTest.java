@@ -48,7 +48,8 @@ public final class BoundaryCommitTest {
                 Due.due("commit() of a shared image", States.make("shared", l1Size).commit(), 4 * l1Size);
             }
         });
-        Due.holds(promise, "Right after the call readBacking(a) == v(a)", () -> States.each((state, maker) -> {
+        Due.holds(promise, "Right after the call readBacking(a) == v(a)",
+            () -> States.each((state, maker) -> {
             QcowImage x = maker.make();
             int[] v = IntStream.range(0, x.guestWords()).map(x::read).toArray();
             x.commit();
@@ -79,7 +80,8 @@ public final class BoundaryCommitTest {
                     }
                 }
             }));
-        Due.holds(promise, "Snapshots keep their allocation flags", () -> States.each((state, maker) -> {
+        Due.holds(promise, "Snapshots keep their allocation flags",
+            () -> States.each((state, maker) -> {
             QcowImage x = maker.make();
             for (int slot = 0; slot < 4; slot++) {
                 int[] before = Seen.flags(x, slot);
@@ -90,7 +92,8 @@ public final class BoundaryCommitTest {
                 Due.same(state + "flags of slot " + slot + " later", Seen.flags(x, slot), before);
             }
         }));
-        Due.holds(promise, "Snapshots keep their allocated contents", () -> States.each((state, maker) -> {
+        Due.holds(promise, "Snapshots keep their allocated contents",
+            () -> States.each((state, maker) -> {
             QcowImage before = maker.make();
             QcowImage x = maker.make();
             x.commit();
@@ -153,7 +156,7 @@ public final class BoundaryCommitTest {
     private static void check() {
         String promise = "Promise 17";
         Due.holds(promise, "check() changes nothing", () -> States.each((state, maker) -> {
-            Seen.unchanged(state, maker.make(), new Call("check()", x -> x.check()), 0);
+            Seen.unchanged(state, maker.make(), Call.check(), 0);
         }));
         Due.holds(promise, "live L1 tables are those of the active image and of each existing snapshot",
             () -> {
@@ -175,7 +178,8 @@ public final class BoundaryCommitTest {
         });
         Due.holds(promise, "r(h): the live L1 entries naming h, plus the entries in live L2 tables naming h",
             BoundaryCommitTest::bothKindsOfNaming);
-        Due.holds(promise, "Each live L2 table is counted once, however many L1 entries name it", () -> {
+        Due.holds(promise, "Each live L2 table is counted once, however many L1 entries name it",
+            () -> {
             QcowImage x = new QcowImage(4);
             x.write(0, 1);
             for (int views = 1; views <= 4; views++) {
@@ -231,7 +235,8 @@ public final class BoundaryCommitTest {
                 Due.due("check() of QcowImage(" + l1Size + ")", new QcowImage(l1Size).check(), 0);
             }
         });
-        Due.holds(promise, "and after every call of every method", () -> States.each((state, maker) -> {
+        Due.holds(promise, "and after every call of every method",
+            () -> States.each((state, maker) -> {
             int words = maker.make().guestWords();
             List<Call> calls = new ArrayList<>(Call.writes(words));
             calls.addAll(Call.writesOfBacking(words));
@@ -241,7 +246,8 @@ public final class BoundaryCommitTest {
             calls.addAll(Call.asking(0));
             checkEach(state, maker, calls);
         }));
-        Due.holds(promise, "with any arguments, refused or not", () -> States.each((state, maker) -> {
+        Due.holds(promise, "with any arguments, refused or not",
+            () -> States.each((state, maker) -> {
             int words = maker.make().guestWords();
             List<Call> calls = new ArrayList<>();
             for (int n : Wrong.outside(words)) {

@@ -1,3 +1,5 @@
+import java.util.List;
+import java.util.function.IntFunction;
 import java.util.stream.IntStream;
 
 /** The sentences of promises 1 to 9 that name a boundary, a test for each. */
@@ -38,7 +40,8 @@ public final class BoundaryImageTest {
         });
         Due.holds(promise, "G = 4 * l1Size and W = 16 * l1Size for the life of the object",
             BoundaryImageTest::sizesForLife);
-        Due.holds(promise, "On construction the backing image is all 0", () -> eachNew((made, x) -> {
+        Due.holds(promise, "On construction the backing image is all 0",
+            () -> eachNew((made, x) -> {
             Due.same(made + "backing", Seen.backing(x), new int[x.guestWords()]);
         }));
         Due.holds(promise, "every active cluster is unallocated", () -> eachNew((made, x) -> {
@@ -102,8 +105,9 @@ public final class BoundaryImageTest {
                 Due.due("guestWords() of " + given[i], new QcowImage(given[i]).guestWords(), words[i]);
             }
         });
-        Due.holds(promise, "Changes nothing", () -> unchanged(new Call("guestWords()", x -> x.guestWords())));
-        Due.holds(promise, "The answer is the same on every call", () -> States.each((state, maker) -> {
+        Due.holds(promise, "Changes nothing", () -> unchanged(Call.guestWords()));
+        Due.holds(promise, "The answer is the same on every call",
+            () -> States.each((state, maker) -> {
             QcowImage x = maker.make();
             int words = x.guestWords();
             for (int n = 0; n < 10; n++) {
@@ -119,18 +123,10 @@ public final class BoundaryImageTest {
 
     private static void write() {
         String promise = "Promise 3";
-        Due.holds(promise, "Refused if addr < 0", () -> States.each((state, maker) -> {
-            QcowImage x = maker.make();
-            for (int addr : Wrong.below()) {
-                Seen.unchanged(state, x, Call.write(addr, 7), 0);
-            }
-        }));
-        Due.holds(promise, "Refused if addr >= W", () -> States.each((state, maker) -> {
-            QcowImage x = maker.make();
-            for (int addr : Wrong.from(x.guestWords())) {
-                Seen.unchanged(state, x, Call.write(addr, 7), 0);
-            }
-        }));
+        Due.holds(promise, "Refused if addr < 0",
+            () -> Wrong.refusedBelow(addr -> Call.write(addr, 7)));
+        Due.holds(promise, "Refused if addr >= W",
+            () -> Wrong.refusedFrom(QcowImage::guestWords, addr -> Call.write(addr, 7)));
         Due.holds(promise, "Otherwise answers true and word addr becomes value, at 0 and W-1 too",
             () -> States.each((state, maker) -> {
                 for (int addr = 0; addr < maker.make().guestWords(); addr++) {
@@ -172,13 +168,9 @@ public final class BoundaryImageTest {
         Due.holds(promise, "The other 3 words of cluster c keep what they held",
             BoundaryImageTest::otherWordsKeep);
         Due.holds(promise, "No other view changes: the backing image is unchanged",
-            () -> afterEachWrite((state, x, call) -> {
-                int[] before = Seen.backing(x);
-                call.on(x);
-                Due.same(state + "backing after " + call.text(), Seen.backing(x), before);
-            }));
+            () -> eachOf(Call::writes, (state, x, call) -> Seen.stays(state, x, call, Seen::backing)));
         Due.holds(promise, "every snapshot's flags and contents are unchanged, even when shared",
-            () -> afterEachWrite((state, x, call) -> {
+            () -> eachOf(Call::writes, (state, x, call) -> {
                 int[] before = Seen.slots(x);
                 call.on(x);
                 Due.same(state + "snapshots after " + call.text(), Seen.slots(x), before);
@@ -230,25 +222,10 @@ public final class BoundaryImageTest {
         void run(String state, QcowImage x, Call call) throws Exception;
     }
 
-    private static void afterEachWrite(CallTest test) throws Exception {
+    /** Each of the calls in each state, on an image of its own. */
+    private static void eachOf(IntFunction<List<Call>> calls, CallTest test) throws Exception {
         States.each((state, maker) -> {
-            for (Call call : Call.writes(maker.make().guestWords())) {
-                test.run(state, maker.make(), call);
-            }
-        });
-    }
-
-    private static void afterEachDiscard(CallTest test) throws Exception {
-        States.each((state, maker) -> {
-            for (Call call : Call.discards(maker.make().guestWords())) {
-                test.run(state, maker.make(), call);
-            }
-        });
-    }
-
-    private static void afterEachWriteOfBacking(CallTest test) throws Exception {
-        States.each((state, maker) -> {
-            for (Call call : Call.writesOfBacking(maker.make().guestWords())) {
+            for (Call call : calls.apply(maker.make().guestWords())) {
                 test.run(state, maker.make(), call);
             }
         });
@@ -276,18 +253,10 @@ public final class BoundaryImageTest {
 
     private static void read() {
         String promise = "Promise 4";
-        Due.holds(promise, "answers 0 if addr < 0", () -> States.each((state, maker) -> {
-            QcowImage x = maker.make();
-            for (int addr : Wrong.below()) {
-                Due.due(state + "read(" + addr + ")", x.read(addr), 0);
-            }
-        }));
-        Due.holds(promise, "answers 0 if addr >= W", () -> States.each((state, maker) -> {
-            QcowImage x = maker.make();
-            for (int addr : Wrong.from(x.guestWords())) {
-                Due.due(state + "read(" + addr + ")", x.read(addr), 0);
-            }
-        }));
+        Due.holds(promise, "answers 0 if addr < 0",
+            () -> Wrong.refusedBelow(Call::read));
+        Due.holds(promise, "answers 0 if addr >= W",
+            () -> Wrong.refusedFrom(QcowImage::guestWords, Call::read));
         Due.holds(promise, "its own word if cluster addr / 4 is allocated, though it be 0", () -> {
             QcowImage x = new QcowImage(4);
             States.writeAllBacking(x, 1000);
@@ -307,25 +276,17 @@ public final class BoundaryImageTest {
         });
         Due.holds(promise, "Changes nothing", () -> {
             for (int addr : new int[] {MIN, -1, 0, 3, 15, 16, 63, 64, MAX}) {
-                unchanged(new Call("read(" + addr + ")", x -> x.read(addr)));
+                unchanged(Call.read(addr));
             }
         });
     }
 
     private static void discard() {
         String promise = "Promise 5";
-        Due.holds(promise, "Refused if cluster < 0", () -> States.each((state, maker) -> {
-            QcowImage x = maker.make();
-            for (int cluster : Wrong.below()) {
-                Seen.unchanged(state, x, Call.discard(cluster), 0);
-            }
-        }));
-        Due.holds(promise, "Refused if cluster >= G", () -> States.each((state, maker) -> {
-            QcowImage x = maker.make();
-            for (int cluster : Wrong.from(x.guestWords() / 4)) {
-                Seen.unchanged(state, x, Call.discard(cluster), 0);
-            }
-        }));
+        Due.holds(promise, "Refused if cluster < 0",
+            () -> Wrong.refusedBelow(Call::discard));
+        Due.holds(promise, "Refused if cluster >= G",
+            () -> Wrong.refusedFrom(x -> x.guestWords() / 4, Call::discard));
         Due.holds(promise, "Otherwise answers whether the guest cluster was allocated, 0 and G-1 too",
             () -> States.each((state, maker) -> {
                 for (int cluster = 0; cluster < maker.make().guestWords() / 4; cluster++) {
@@ -348,26 +309,24 @@ public final class BoundaryImageTest {
                 }
             }));
         Due.holds(promise, "If it was already unallocated, the answer is false, the active image as before",
-            () -> afterEachDiscard((state, x, call) -> {
+            () -> eachOf(Call::discards, (state, x, call) -> {
                 call.on(x);
                 int[] before = Seen.active(x);
                 Due.due(state + "a second " + call.text(), call.on(x), 0);
                 Due.same(state + "active after a second " + call.text(), Seen.active(x), before);
             }));
         Due.holds(promise, "No other view changes: the backing image is unchanged",
-            () -> afterEachDiscard((state, x, call) -> {
-                int[] before = Seen.backing(x);
-                call.on(x);
-                Due.same(state + "backing after " + call.text(), Seen.backing(x), before);
-            }));
-        Due.holds(promise, "every snapshot is unchanged", () -> afterEachDiscard((state, x, call) -> {
+            () -> eachOf(Call::discards, (state, x, call) -> Seen.stays(state, x, call, Seen::backing)));
+        Due.holds(promise, "every snapshot is unchanged",
+            () -> eachOf(Call::discards, (state, x, call) -> {
             int[] before = Seen.slots(x);
             call.on(x);
             Due.same(state + "snapshots after " + call.text(), Seen.slots(x), before);
             States.writeAll(x, 8000);
             Due.same(state + "snapshots after " + call.text() + " and writes", Seen.slots(x), before);
         }));
-        Due.holds(promise, "every other active cluster is unchanged", () -> States.each((state, maker) -> {
+        Due.holds(promise, "every other active cluster is unchanged",
+            () -> States.each((state, maker) -> {
             for (int cluster = 0; cluster < maker.make().guestWords() / 4; cluster++) {
                 QcowImage x = maker.make();
                 int[] before = activeBut(x, cluster);
@@ -390,18 +349,10 @@ public final class BoundaryImageTest {
 
     private static void writeBacking() {
         String promise = "Promise 6";
-        Due.holds(promise, "Refused if addr < 0", () -> States.each((state, maker) -> {
-            QcowImage x = maker.make();
-            for (int addr : Wrong.below()) {
-                Seen.unchanged(state, x, Call.writeBacking(addr, 7), 0);
-            }
-        }));
-        Due.holds(promise, "Refused if addr >= W", () -> States.each((state, maker) -> {
-            QcowImage x = maker.make();
-            for (int addr : Wrong.from(x.guestWords())) {
-                Seen.unchanged(state, x, Call.writeBacking(addr, 7), 0);
-            }
-        }));
+        Due.holds(promise, "Refused if addr < 0",
+            () -> Wrong.refusedBelow(addr -> Call.writeBacking(addr, 7)));
+        Due.holds(promise, "Refused if addr >= W",
+            () -> Wrong.refusedFrom(QcowImage::guestWords, addr -> Call.writeBacking(addr, 7)));
         Due.holds(promise, "Otherwise backing word addr becomes value and answers true, at 0 and W-1 too",
             () -> States.each((state, maker) -> {
                 QcowImage x = maker.make();
@@ -418,11 +369,8 @@ public final class BoundaryImageTest {
         Due.holds(promise, "Allocated clusters of all views are unchanged",
             BoundaryImageTest::allocatedStay);
         Due.holds(promise, "Allocation flags of all views are unchanged",
-            () -> afterEachWriteOfBacking((state, x, call) -> {
-                int[] before = flags(x);
-                call.on(x);
-                Due.same(state + "flags after " + call.text(), flags(x), before);
-            }));
+            () -> eachOf(Call::writesOfBacking,
+                (state, x, call) -> Seen.stays(state, x, call, BoundaryImageTest::flags)));
         Due.holds(promise, "No other backing word changes", () -> States.each((state, maker) -> {
             for (int addr = 0; addr < maker.make().guestWords(); addr++) {
                 QcowImage x = maker.make();
@@ -481,18 +429,10 @@ public final class BoundaryImageTest {
 
     private static void readBacking() {
         String promise = "Promise 7";
-        Due.holds(promise, "answers 0 if addr < 0", () -> States.each((state, maker) -> {
-            QcowImage x = maker.make();
-            for (int addr : Wrong.below()) {
-                Due.due(state + "readBacking(" + addr + ")", x.readBacking(addr), 0);
-            }
-        }));
-        Due.holds(promise, "answers 0 if addr >= W", () -> States.each((state, maker) -> {
-            QcowImage x = maker.make();
-            for (int addr : Wrong.from(x.guestWords())) {
-                Due.due(state + "readBacking(" + addr + ")", x.readBacking(addr), 0);
-            }
-        }));
+        Due.holds(promise, "answers 0 if addr < 0",
+            () -> Wrong.refusedBelow(Call::readBacking));
+        Due.holds(promise, "answers 0 if addr >= W",
+            () -> Wrong.refusedFrom(QcowImage::guestWords, Call::readBacking));
         Due.holds(promise, "else backing word addr, at 0 and W-1 too, allocated or not", () -> {
             for (String state : new String[] {"mixed", "shared", "full", "emptied"}) {
                 for (int l1Size = 1; l1Size <= 4; l1Size++) {
@@ -505,25 +445,17 @@ public final class BoundaryImageTest {
         });
         Due.holds(promise, "Changes nothing", () -> {
             for (int addr : new int[] {MIN, -1, 0, 3, 15, 16, 63, 64, MAX}) {
-                unchanged(new Call("readBacking(" + addr + ")", x -> x.readBacking(addr)));
+                unchanged(Call.readBacking(addr));
             }
         });
     }
 
     private static void isAllocated() {
         String promise = "Promise 8";
-        Due.holds(promise, "answers false if cluster < 0", () -> States.each((state, maker) -> {
-            QcowImage x = maker.make();
-            for (int cluster : Wrong.below()) {
-                Due.due(state + "isAllocated(" + cluster + ")", x.isAllocated(cluster), false);
-            }
-        }));
-        Due.holds(promise, "answers false if cluster >= G", () -> States.each((state, maker) -> {
-            QcowImage x = maker.make();
-            for (int cluster : Wrong.from(x.guestWords() / 4)) {
-                Due.due(state + "isAllocated(" + cluster + ")", x.isAllocated(cluster), false);
-            }
-        }));
+        Due.holds(promise, "answers false if cluster < 0",
+            () -> Wrong.refusedBelow(Call::isAllocated));
+        Due.holds(promise, "answers false if cluster >= G",
+            () -> Wrong.refusedFrom(x -> x.guestWords() / 4, Call::isAllocated));
         Due.holds(promise, "else whether the guest cluster is allocated, 0 and G-1 too", () -> {
             for (int l1Size = 1; l1Size <= 4; l1Size++) {
                 for (int cluster = 0; cluster < 4 * l1Size; cluster++) {
@@ -538,7 +470,7 @@ public final class BoundaryImageTest {
         });
         Due.holds(promise, "Changes nothing", () -> {
             for (int cluster : new int[] {MIN, -1, 0, 3, 4, 15, 16, MAX}) {
-                unchanged(new Call("isAllocated(" + cluster + ")", x -> Seen.bit(x.isAllocated(cluster))));
+                unchanged(Call.isAllocated(cluster));
             }
         });
     }
@@ -575,6 +507,6 @@ public final class BoundaryImageTest {
                 }
             });
         Due.holds(promise, "Changes nothing",
-            () -> unchanged(new Call("allocatedCount()", x -> x.allocatedCount())));
+            () -> unchanged(Call.allocatedCount()));
     }
 }

@@ -61,24 +61,18 @@ public final class BoundarySnapshotTest {
 
     private static void snapshotCreate() {
         String promise = "Promise 10";
-        Due.holds(promise, "Refused if slot < 0", () -> States.each((state, maker) -> {
-            QcowImage x = maker.make();
-            for (int slot : Wrong.below()) {
-                Seen.unchanged(state, x, Call.create(slot), 0);
-            }
-        }));
-        Due.holds(promise, "Refused if slot >= SLOTS", () -> States.each((state, maker) -> {
-            QcowImage x = maker.make();
-            for (int slot : Wrong.from(4)) {
-                Seen.unchanged(state, x, Call.create(slot), 0);
-            }
-        }));
-        Due.holds(promise, "then refused if slot already holds a snapshot", () -> eachHeld((state, x, slot) -> {
+        Due.holds(promise, "Refused if slot < 0",
+            () -> Wrong.refusedBelow(Call::create));
+        Due.holds(promise, "Refused if slot >= SLOTS",
+            () -> Wrong.refusedFrom(x -> 4, Call::create));
+        Due.holds(promise, "then refused if slot already holds a snapshot",
+            () -> eachHeld((state, x, slot) -> {
             Seen.unchanged(state, x, Call.create(slot), 0);
             States.writeAll(x, 8000);
             Seen.unchanged(state + "later ", x, Call.create(slot), 0);
         }));
-        Due.holds(promise, "Otherwise answers true, in slots 0 and 3 too", () -> eachEmpty((state, x, slot) -> {
+        Due.holds(promise, "Otherwise answers true, in slots 0 and 3 too",
+            () -> eachEmpty((state, x, slot) -> {
             Due.due(state + "snapshotCreate", x.snapshotCreate(slot), true);
             Due.due(state + "snapshotExists", x.snapshotExists(slot), true);
         }));
@@ -88,7 +82,8 @@ public final class BoundarySnapshotTest {
                 x.snapshotCreate(slot);
                 Due.same(state + "the new snapshot", asActive(x, slot), active);
             }));
-        Due.holds(promise, "a snapshot of an image with nothing allocated, and of one with all", () -> {
+        Due.holds(promise, "a snapshot of an image with nothing allocated, and of one with all",
+            () -> {
             QcowImage x = new QcowImage(4);
             x.snapshotCreate(0);
             States.writeAll(x, 2000);
@@ -99,21 +94,12 @@ public final class BoundarySnapshotTest {
                 Due.due("isSnapshotAllocated(3, " + cluster + ")", x.isSnapshotAllocated(3, cluster), true);
             }
         });
-        Due.holds(promise, "The active image is unchanged", () -> eachEmpty((state, x, slot) -> {
-            int[] before = Seen.active(x);
-            x.snapshotCreate(slot);
-            Due.same(state + "the active image", Seen.active(x), before);
-        }));
-        Due.holds(promise, "the backing image is unchanged", () -> eachEmpty((state, x, slot) -> {
-            int[] before = Seen.backing(x);
-            x.snapshotCreate(slot);
-            Due.same(state + "the backing image", Seen.backing(x), before);
-        }));
-        Due.holds(promise, "every other slot is unchanged", () -> eachEmpty((state, x, slot) -> {
-            int[] before = slotsBut(x, slot);
-            x.snapshotCreate(slot);
-            Due.same(state + "the other slots", slotsBut(x, slot), before);
-        }));
+        Due.holds(promise, "The active image is unchanged", () -> eachEmpty((state, x, slot) ->
+            Seen.stays(state, x, Call.create(slot), Seen::active)));
+        Due.holds(promise, "the backing image is unchanged", () -> eachEmpty((state, x, slot) ->
+            Seen.stays(state, x, Call.create(slot), Seen::backing)));
+        Due.holds(promise, "every other slot is unchanged", () -> eachEmpty((state, x, slot) ->
+            Seen.stays(state, x, Call.create(slot), y -> slotsBut(y, slot))));
         Due.holds(promise, "later calls other than snapshotDelete(slot), writeBacking and commit do not change it",
             () -> States.each((state, maker) -> {
                 QcowImage x = maker.make();
@@ -153,26 +139,21 @@ public final class BoundarySnapshotTest {
 
     private static void snapshotDelete() {
         String promise = "Promise 11";
-        Due.holds(promise, "Refused if slot < 0", () -> States.each((state, maker) -> {
-            QcowImage x = maker.make();
-            for (int slot : Wrong.below()) {
-                Seen.unchanged(state, x, Call.delete(slot), 0);
-            }
-        }));
-        Due.holds(promise, "Refused if slot >= SLOTS", () -> States.each((state, maker) -> {
-            QcowImage x = maker.make();
-            for (int slot : Wrong.from(4)) {
-                Seen.unchanged(state, x, Call.delete(slot), 0);
-            }
-        }));
-        Due.holds(promise, "then refused if slot holds no snapshot", () -> eachEmpty((state, x, slot) -> {
+        Due.holds(promise, "Refused if slot < 0",
+            () -> Wrong.refusedBelow(Call::delete));
+        Due.holds(promise, "Refused if slot >= SLOTS",
+            () -> Wrong.refusedFrom(x -> 4, Call::delete));
+        Due.holds(promise, "then refused if slot holds no snapshot",
+            () -> eachEmpty((state, x, slot) -> {
             Seen.unchanged(state, x, Call.delete(slot), 0);
         }));
-        Due.holds(promise, "then refused if slot holds no snapshot any more", () -> eachHeld((state, x, slot) -> {
+        Due.holds(promise, "then refused if slot holds no snapshot any more",
+            () -> eachHeld((state, x, slot) -> {
             x.snapshotDelete(slot);
             Seen.unchanged(state, x, Call.delete(slot), 0);
         }));
-        Due.holds(promise, "Otherwise slot becomes empty and answers true", () -> eachHeld((state, x, slot) -> {
+        Due.holds(promise, "Otherwise slot becomes empty and answers true",
+            () -> eachHeld((state, x, slot) -> {
             Due.due(state + "snapshotDelete", x.snapshotDelete(slot), true);
             Due.same(state + "the emptied slot", Seen.slot(x, slot), new int[1 + x.guestWords() / 4 * 5]);
         }));
@@ -187,19 +168,18 @@ public final class BoundarySnapshotTest {
                 }
                 Due.same(state + "the active image alone", Seen.active(x), before);
             }));
-        Due.holds(promise, "the backing image reads as before", () -> eachHeld((state, x, slot) -> {
-            int[] before = Seen.backing(x);
-            x.snapshotDelete(slot);
-            Due.same(state + "the backing image", Seen.backing(x), before);
-        }));
-        Due.holds(promise, "every other snapshot reads exactly as before", () -> eachHeld((state, x, slot) -> {
+        Due.holds(promise, "the backing image reads as before", () -> eachHeld((state, x, slot) ->
+            Seen.stays(state, x, Call.delete(slot), Seen::backing)));
+        Due.holds(promise, "every other snapshot reads exactly as before",
+            () -> eachHeld((state, x, slot) -> {
             int[] before = slotsBut(x, slot);
             x.snapshotDelete(slot);
             Due.same(state + "the other slots", slotsBut(x, slot), before);
             States.writeAll(x, 8000);
             Due.same(state + "the other slots after writes", slotsBut(x, slot), before);
         }));
-        Due.holds(promise, "The emptied slot may later receive a new snapshot", () -> eachHeld((state, x, slot) -> {
+        Due.holds(promise, "The emptied slot may later receive a new snapshot",
+            () -> eachHeld((state, x, slot) -> {
             for (int round = 1; round <= 5; round++) {
                 x.snapshotDelete(slot);
                 x.write(round, 70 + round);
@@ -212,18 +192,10 @@ public final class BoundarySnapshotTest {
 
     private static void snapshotApply() {
         String promise = "Promise 12";
-        Due.holds(promise, "Refused if slot < 0", () -> States.each((state, maker) -> {
-            QcowImage x = maker.make();
-            for (int slot : Wrong.below()) {
-                Seen.unchanged(state, x, Call.apply(slot), 0);
-            }
-        }));
-        Due.holds(promise, "Refused if slot >= SLOTS", () -> States.each((state, maker) -> {
-            QcowImage x = maker.make();
-            for (int slot : Wrong.from(4)) {
-                Seen.unchanged(state, x, Call.apply(slot), 0);
-            }
-        }));
+        Due.holds(promise, "Refused if slot < 0",
+            () -> Wrong.refusedBelow(Call::apply));
+        Due.holds(promise, "Refused if slot >= SLOTS",
+            () -> Wrong.refusedFrom(x -> 4, Call::apply));
         Due.holds(promise, "then refused if slot holds no snapshot", () -> {
             eachEmpty((state, x, slot) -> Seen.unchanged(state, x, Call.apply(slot), 0));
             eachHeld((state, x, slot) -> {
@@ -250,12 +222,10 @@ public final class BoundarySnapshotTest {
                 Due.due(state + "a former word " + addr + " committed", x.readBacking(addr) == 8000 + addr, false);
             }
         }));
-        Due.holds(promise, "The snapshot stays as it was", () -> eachHeld((state, x, slot) -> {
-            int[] before = Seen.slot(x, slot);
-            x.snapshotApply(slot);
-            Due.same(state + "the snapshot", Seen.slot(x, slot), before);
-        }));
-        Due.holds(promise, "later changes of the active image do not change it", () -> eachHeld((state, x, slot) -> {
+        Due.holds(promise, "The snapshot stays as it was", () -> eachHeld((state, x, slot) ->
+            Seen.stays(state, x, Call.apply(slot), y -> Seen.slot(y, slot))));
+        Due.holds(promise, "later changes of the active image do not change it",
+            () -> eachHeld((state, x, slot) -> {
             int[] before = Seen.slot(x, slot);
             x.snapshotApply(slot);
             for (int addr = 0; addr < x.guestWords(); addr++) {
@@ -268,11 +238,8 @@ public final class BoundarySnapshotTest {
                 Due.same(state + "the snapshot after a discard", Seen.slot(x, slot), before);
             }
         }));
-        Due.holds(promise, "The backing image is unchanged", () -> eachHeld((state, x, slot) -> {
-            int[] before = Seen.backing(x);
-            x.snapshotApply(slot);
-            Due.same(state + "the backing image", Seen.backing(x), before);
-        }));
+        Due.holds(promise, "The backing image is unchanged", () -> eachHeld((state, x, slot) ->
+            Seen.stays(state, x, Call.apply(slot), Seen::backing)));
         Due.holds(promise, "every other snapshot is unchanged", () -> eachHeld((state, x, slot) -> {
             int[] before = slotsBut(x, slot);
             x.snapshotApply(slot);
@@ -302,18 +269,10 @@ public final class BoundarySnapshotTest {
 
     private static void snapshotExists() {
         String promise = "Promise 13";
-        Due.holds(promise, "answers false if slot < 0", () -> States.each((state, maker) -> {
-            QcowImage x = maker.make();
-            for (int slot : Wrong.below()) {
-                Due.due(state + "snapshotExists(" + slot + ")", x.snapshotExists(slot), false);
-            }
-        }));
-        Due.holds(promise, "answers false if slot >= SLOTS", () -> States.each((state, maker) -> {
-            QcowImage x = maker.make();
-            for (int slot : Wrong.from(4)) {
-                Due.due(state + "snapshotExists(" + slot + ")", x.snapshotExists(slot), false);
-            }
-        }));
+        Due.holds(promise, "answers false if slot < 0",
+            () -> Wrong.refusedBelow(Call::exists));
+        Due.holds(promise, "answers false if slot >= SLOTS",
+            () -> Wrong.refusedFrom(x -> 4, Call::exists));
         Due.holds(promise, "else whether slot holds a snapshot", () -> {
             for (int set = 0; set < 16; set++) {
                 QcowImage x = new QcowImage(1);
@@ -334,7 +293,7 @@ public final class BoundarySnapshotTest {
         Due.holds(promise, "Changes nothing", () -> States.each((state, maker) -> {
             for (int slot : new int[] {MIN, -1, 0, 1, 2, 3, 4, MAX}) {
                 Seen.unchanged(state, maker.make(),
-                    new Call("snapshotExists(" + slot + ")", x -> Seen.bit(x.snapshotExists(slot))));
+                    Call.exists(slot));
             }
         }));
     }
@@ -357,16 +316,13 @@ public final class BoundarySnapshotTest {
             });
         });
         Due.holds(promise, "then 0 if addr < 0", () -> eachHeld((state, x, slot) -> {
-            for (int addr : Wrong.below()) {
-                Due.due(state + "readSnapshot " + addr, x.readSnapshot(slot, addr), 0);
-            }
+            Wrong.refused(state, x, Wrong.below(), addr -> Call.readSnapshot(slot, addr));
         }));
         Due.holds(promise, "then 0 if addr >= W", () -> eachHeld((state, x, slot) -> {
-            for (int addr : Wrong.from(x.guestWords())) {
-                Due.due(state + "readSnapshot " + addr, x.readSnapshot(slot, addr), 0);
-            }
+            Wrong.refused(state, x, Wrong.from(x.guestWords()), addr -> Call.readSnapshot(slot, addr));
         }));
-        Due.holds(promise, "its own word if cluster addr / 4 is allocated in it, though it be 0", () -> {
+        Due.holds(promise, "its own word if cluster addr / 4 is allocated in it, though it be 0",
+            () -> {
             QcowImage x = new QcowImage(4);
             States.writeAllBacking(x, 1000);
             for (int addr = 0; addr < 64; addr++) {
@@ -445,7 +401,8 @@ public final class BoundarySnapshotTest {
     private static void isSnapshotAllocated() {
         String promise = "Promise 15";
         Due.holds(promise, "answers false if slot < 0", () -> outsideSlots(Wrong.below(), false));
-        Due.holds(promise, "answers false if slot >= SLOTS", () -> outsideSlots(Wrong.from(4), false));
+        Due.holds(promise, "answers false if slot >= SLOTS",
+            () -> outsideSlots(Wrong.from(4), false));
         Due.holds(promise, "then false if slot holds no snapshot", () -> {
             eachEmpty((state, x, slot) -> {
                 for (int cluster = -1; cluster <= x.guestWords() / 4; cluster++) {
@@ -462,16 +419,14 @@ public final class BoundarySnapshotTest {
             });
         });
         Due.holds(promise, "then false if cluster < 0", () -> eachHeld((state, x, slot) -> {
-            for (int cluster : Wrong.below()) {
-                Due.due(state + "isSnapshotAllocated " + cluster, x.isSnapshotAllocated(slot, cluster), false);
-            }
+            Wrong.refused(state, x, Wrong.below(), cluster -> Call.isSnapshotAllocated(slot, cluster));
         }));
         Due.holds(promise, "then false if cluster >= G", () -> eachHeld((state, x, slot) -> {
-            for (int cluster : Wrong.from(x.guestWords() / 4)) {
-                Due.due(state + "isSnapshotAllocated " + cluster, x.isSnapshotAllocated(slot, cluster), false);
-            }
+            Wrong.refused(state, x, Wrong.from(x.guestWords() / 4),
+                cluster -> Call.isSnapshotAllocated(slot, cluster));
         }));
-        Due.holds(promise, "Otherwise whether the guest cluster is allocated in it, 0 and G-1 too", () -> {
+        Due.holds(promise, "Otherwise whether the guest cluster is allocated in it, 0 and G-1 too",
+            () -> {
             for (int l1Size = 1; l1Size <= 4; l1Size++) {
                 for (int cluster = 0; cluster < 4 * l1Size; cluster++) {
                     QcowImage x = new QcowImage(l1Size);

@@ -44,22 +44,42 @@ record Call(String text, ToIntFunction<QcowImage> made) {
 
     /** Every call that only asks, with this number in every place. */
     static List<Call> asking(int n) {
-        List<Call> calls = new ArrayList<>();
-        calls.add(new Call("guestWords()", x -> x.guestWords()));
-        calls.add(new Call("read(" + n + ")", x -> x.read(n)));
-        calls.add(new Call("readBacking(" + n + ")", x -> x.readBacking(n)));
-        calls.add(new Call("isAllocated(" + n + ")", x -> Seen.bit(x.isAllocated(n))));
-        calls.add(new Call("allocatedCount()", x -> x.allocatedCount()));
-        calls.add(new Call("snapshotExists(" + n + ")", x -> Seen.bit(x.snapshotExists(n))));
-        calls.add(readSnapshot(n, n));
-        calls.add(isSnapshotAllocated(n, n));
-        calls.add(new Call("check()", x -> x.check()));
-        return calls;
+        return List.of(guestWords(), read(n), readBacking(n), isAllocated(n), allocatedCount(),
+            exists(n), readSnapshot(n, n), isSnapshotAllocated(n, n), check());
     }
 
     /** Every call that may change something, with this number in every place. */
     static List<Call> changing(int n) {
-        return List.of(write(n, n), writeBacking(n, n), discard(n), create(n), apply(n), delete(n), commit());
+        return List.of(write(n, n), writeBacking(n, n), discard(n), create(n), apply(n), delete(n),
+            commit());
+    }
+
+    static Call guestWords() {
+        return new Call("guestWords()", QcowImage::guestWords);
+    }
+
+    static Call read(int addr) {
+        return new Call("read(" + addr + ")", x -> x.read(addr));
+    }
+
+    static Call readBacking(int addr) {
+        return new Call("readBacking(" + addr + ")", x -> x.readBacking(addr));
+    }
+
+    static Call isAllocated(int cluster) {
+        return new Call("isAllocated(" + cluster + ")", x -> Seen.bit(x.isAllocated(cluster)));
+    }
+
+    static Call allocatedCount() {
+        return new Call("allocatedCount()", QcowImage::allocatedCount);
+    }
+
+    static Call exists(int slot) {
+        return new Call("snapshotExists(" + slot + ")", x -> Seen.bit(x.snapshotExists(slot)));
+    }
+
+    static Call check() {
+        return new Call("check()", QcowImage::check);
     }
 
     static Call write(int addr, int value) {
@@ -97,6 +117,6 @@ record Call(String text, ToIntFunction<QcowImage> made) {
     }
 
     static Call commit() {
-        return new Call("commit()", x -> x.commit());
+        return new Call("commit()", QcowImage::commit);
     }
 }

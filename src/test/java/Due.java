@@ -6,9 +6,13 @@ final class Due {
         void run() throws Exception;
     }
 
+    /** A sentence that does not hold is wrong at many places; so many of them are told. */
+    private static final int TOLD = 20;
+
     private static int compared = 0;
     private static int wrong = 0;
     private static int sentences = 0;
+    private static int wrongInSentence = 0;
     private static String sentence = "";
 
     private Due() {
@@ -44,6 +48,7 @@ final class Due {
         int before = compared;
         sentence = promise + ", '" + words + "': ";
         sentences++;
+        wrongInSentence = 0;
         try {
             test.run();
         } catch (Exception | Error thrown) {
@@ -52,12 +57,18 @@ final class Due {
         if (compared == before) {
             tell("nothing was compared");
         }
+        if (wrongInSentence > TOLD) {
+            System.out.println(sentence + (wrongInSentence - TOLD) + " more");
+        }
         sentence = "";
     }
 
     private static void tell(String what) {
         wrong++;
-        System.out.println(sentence + what);
+        wrongInSentence++;
+        if (sentence.isEmpty() || wrongInSentence <= TOLD) {
+            System.out.println(sentence + what);
+        }
     }
 
     static void end() {

@@ -1,6 +1,7 @@
 import java.lang.reflect.Field;
 import java.lang.reflect.Modifier;
 import java.util.Arrays;
+import java.util.function.Function;
 import java.util.stream.IntStream;
 
 /** What can be seen of an image, view by view, as rows of numbers that can be compared. */
@@ -69,6 +70,13 @@ final class Seen {
     static void unchanged(String state, QcowImage x, Call call) throws IllegalAccessException {
         int answer = call.on(x);
         unchanged(state, x, call, answer);
+    }
+
+    /** That a call leaves one view, or several, as they were. */
+    static void stays(String state, QcowImage x, Call call, Function<QcowImage, int[]> view) {
+        int[] before = view.apply(x);
+        call.on(x);
+        Due.same(state + "what must stay after " + call.text(), view.apply(x), before);
     }
 
     static int bit(boolean answer) {

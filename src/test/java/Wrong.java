@@ -1,3 +1,5 @@
+import java.util.function.IntFunction;
+import java.util.function.ToIntFunction;
 import java.util.stream.IntStream;
 
 /** Arguments outside a range: beside its ends, at the ends of int, and those that wrap into it. */
@@ -26,6 +28,26 @@ final class Wrong {
 
     static int[] outside(int bound) {
         return Seen.join(below(), from(bound));
+    }
+
+    /** In every state a call with an argument below 0 answers 0 or false and changes nothing. */
+    static void refusedBelow(IntFunction<Call> call) throws Exception {
+        States.each((state, maker) -> refused(state, maker.make(), below(), call));
+    }
+
+    /** The same for an argument at the bound and above, such as W, G or SLOTS of the image. */
+    static void refusedFrom(ToIntFunction<QcowImage> bound, IntFunction<Call> call) throws Exception {
+        States.each((state, maker) -> {
+            QcowImage x = maker.make();
+            refused(state, x, from(bound.applyAsInt(x)), call);
+        });
+    }
+
+    static void refused(String state, QcowImage x, int[] arguments, IntFunction<Call> call)
+            throws IllegalAccessException {
+        for (int argument : arguments) {
+            Seen.unchanged(state, x, call.apply(argument), 0);
+        }
     }
 
     private static IntStream powers() {
