@@ -42,8 +42,8 @@ public final class BoundaryImageTest {
             BoundaryImageTest::sizesForLife);
         Due.holds(promise, "On construction the backing image is all 0",
             () -> eachNew((made, x) -> {
-            Due.same(made + "backing", Seen.backing(x), new int[x.guestWords()]);
-        }));
+                Due.same(made + "backing", Seen.backing(x), new int[x.guestWords()]);
+            }));
         Due.holds(promise, "every active cluster is unallocated", () -> eachNew((made, x) -> {
             for (int cluster = 0; cluster < x.guestWords() / 4; cluster++) {
                 Due.due(made + "isAllocated(" + cluster + ")", x.isAllocated(cluster), false);
@@ -108,13 +108,13 @@ public final class BoundaryImageTest {
         Due.holds(promise, "Changes nothing", () -> unchanged(Call.guestWords()));
         Due.holds(promise, "The answer is the same on every call",
             () -> States.each((state, maker) -> {
-            QcowImage x = maker.make();
-            int words = x.guestWords();
-            for (int n = 0; n < 10; n++) {
-                Due.due(state + "guestWords() again", x.guestWords(), words);
-                Call.changing(n).forEach(call -> call.on(x));
-            }
-        }));
+                QcowImage x = maker.make();
+                int words = x.guestWords();
+                for (int n = 0; n < 10; n++) {
+                    Due.due(state + "guestWords() again", x.guestWords(), words);
+                    Call.changing(n).forEach(call -> call.on(x));
+                }
+            }));
     }
 
     private static void unchanged(Call call) throws Exception {
@@ -319,22 +319,22 @@ public final class BoundaryImageTest {
             () -> eachOf(Call::discards, (state, x, call) -> Seen.stays(state, x, call, Seen::backing)));
         Due.holds(promise, "every snapshot is unchanged",
             () -> eachOf(Call::discards, (state, x, call) -> {
-            int[] before = Seen.slots(x);
-            call.on(x);
-            Due.same(state + "snapshots after " + call.text(), Seen.slots(x), before);
-            States.writeAll(x, 8000);
-            Due.same(state + "snapshots after " + call.text() + " and writes", Seen.slots(x), before);
-        }));
+                int[] before = Seen.slots(x);
+                call.on(x);
+                Due.same(state + "snapshots after " + call.text(), Seen.slots(x), before);
+                States.writeAll(x, 8000);
+                Due.same(state + "snapshots after " + call.text() + " and writes", Seen.slots(x), before);
+            }));
         Due.holds(promise, "every other active cluster is unchanged",
             () -> States.each((state, maker) -> {
-            for (int cluster = 0; cluster < maker.make().guestWords() / 4; cluster++) {
-                QcowImage x = maker.make();
-                int[] before = activeBut(x, cluster);
-                x.discard(cluster);
-                Due.same(state + "other clusters after discard(" + cluster + ")",
-                    activeBut(x, cluster), before);
-            }
-        }));
+                for (int cluster = 0; cluster < maker.make().guestWords() / 4; cluster++) {
+                    QcowImage x = maker.make();
+                    int[] before = activeBut(x, cluster);
+                    x.discard(cluster);
+                    Due.same(state + "other clusters after discard(" + cluster + ")",
+                        activeBut(x, cluster), before);
+                }
+            }));
         Due.holds(promise, "The former own words of the discarded cluster are gone", () -> {
             QcowImage x = States.make("full", 4);
             for (int cluster = 0; cluster < 16; cluster++) {

@@ -67,15 +67,15 @@ public final class BoundarySnapshotTest {
             () -> Wrong.refusedFrom(x -> 4, Call::create));
         Due.holds(promise, "then refused if slot already holds a snapshot",
             () -> eachHeld((state, x, slot) -> {
-            Seen.unchanged(state, x, Call.create(slot), 0);
-            States.writeAll(x, 8000);
-            Seen.unchanged(state + "later ", x, Call.create(slot), 0);
-        }));
+                Seen.unchanged(state, x, Call.create(slot), 0);
+                States.writeAll(x, 8000);
+                Seen.unchanged(state + "later ", x, Call.create(slot), 0);
+            }));
         Due.holds(promise, "Otherwise answers true, in slots 0 and 3 too",
             () -> eachEmpty((state, x, slot) -> {
-            Due.due(state + "snapshotCreate", x.snapshotCreate(slot), true);
-            Due.due(state + "snapshotExists", x.snapshotExists(slot), true);
-        }));
+                Due.due(state + "snapshotCreate", x.snapshotCreate(slot), true);
+                Due.due(state + "snapshotExists", x.snapshotExists(slot), true);
+            }));
         Due.holds(promise, "flags and allocated contents equal the active image's now",
             () -> eachEmpty((state, x, slot) -> {
                 int[] active = Seen.active(x);
@@ -84,16 +84,16 @@ public final class BoundarySnapshotTest {
             }));
         Due.holds(promise, "a snapshot of an image with nothing allocated, and of one with all",
             () -> {
-            QcowImage x = new QcowImage(4);
-            x.snapshotCreate(0);
-            States.writeAll(x, 2000);
-            x.snapshotCreate(3);
-            x.commit();
-            for (int cluster = 0; cluster < 16; cluster++) {
-                Due.due("isSnapshotAllocated(0, " + cluster + ")", x.isSnapshotAllocated(0, cluster), false);
-                Due.due("isSnapshotAllocated(3, " + cluster + ")", x.isSnapshotAllocated(3, cluster), true);
-            }
-        });
+                QcowImage x = new QcowImage(4);
+                x.snapshotCreate(0);
+                States.writeAll(x, 2000);
+                x.snapshotCreate(3);
+                x.commit();
+                for (int cluster = 0; cluster < 16; cluster++) {
+                    Due.due("isSnapshotAllocated(0, " + cluster + ")", x.isSnapshotAllocated(0, cluster), false);
+                    Due.due("isSnapshotAllocated(3, " + cluster + ")", x.isSnapshotAllocated(3, cluster), true);
+                }
+            });
         Due.holds(promise, "The active image is unchanged", () -> eachEmpty((state, x, slot) ->
             Seen.stays(state, x, Call.create(slot), Seen::active)));
         Due.holds(promise, "the backing image is unchanged", () -> eachEmpty((state, x, slot) ->
@@ -145,18 +145,18 @@ public final class BoundarySnapshotTest {
             () -> Wrong.refusedFrom(x -> 4, Call::delete));
         Due.holds(promise, "then refused if slot holds no snapshot",
             () -> eachEmpty((state, x, slot) -> {
-            Seen.unchanged(state, x, Call.delete(slot), 0);
-        }));
+                Seen.unchanged(state, x, Call.delete(slot), 0);
+            }));
         Due.holds(promise, "then refused if slot holds no snapshot any more",
             () -> eachHeld((state, x, slot) -> {
-            x.snapshotDelete(slot);
-            Seen.unchanged(state, x, Call.delete(slot), 0);
-        }));
+                x.snapshotDelete(slot);
+                Seen.unchanged(state, x, Call.delete(slot), 0);
+            }));
         Due.holds(promise, "Otherwise slot becomes empty and answers true",
             () -> eachHeld((state, x, slot) -> {
-            Due.due(state + "snapshotDelete", x.snapshotDelete(slot), true);
-            Due.same(state + "the emptied slot", Seen.slot(x, slot), new int[1 + x.guestWords() / 4 * 5]);
-        }));
+                Due.due(state + "snapshotDelete", x.snapshotDelete(slot), true);
+                Due.same(state + "the emptied slot", Seen.slot(x, slot), new int[1 + x.guestWords() / 4 * 5]);
+            }));
         Due.holds(promise, "No other view changes: the active image reads as before",
             () -> eachHeld((state, x, slot) -> {
                 int[] before = Seen.active(x);
@@ -172,22 +172,22 @@ public final class BoundarySnapshotTest {
             Seen.stays(state, x, Call.delete(slot), Seen::backing)));
         Due.holds(promise, "every other snapshot reads exactly as before",
             () -> eachHeld((state, x, slot) -> {
-            int[] before = slotsBut(x, slot);
-            x.snapshotDelete(slot);
-            Due.same(state + "the other slots", slotsBut(x, slot), before);
-            States.writeAll(x, 8000);
-            Due.same(state + "the other slots after writes", slotsBut(x, slot), before);
-        }));
+                int[] before = slotsBut(x, slot);
+                x.snapshotDelete(slot);
+                Due.same(state + "the other slots", slotsBut(x, slot), before);
+                States.writeAll(x, 8000);
+                Due.same(state + "the other slots after writes", slotsBut(x, slot), before);
+            }));
         Due.holds(promise, "The emptied slot may later receive a new snapshot",
             () -> eachHeld((state, x, slot) -> {
-            for (int round = 1; round <= 5; round++) {
-                x.snapshotDelete(slot);
-                x.write(round, 70 + round);
-                int[] active = Seen.active(x);
-                Due.due(state + "snapshotCreate again", x.snapshotCreate(slot), true);
-                Due.same(state + "the new snapshot", asActive(x, slot), active);
-            }
-        }));
+                for (int round = 1; round <= 5; round++) {
+                    x.snapshotDelete(slot);
+                    x.write(round, 70 + round);
+                    int[] active = Seen.active(x);
+                    Due.due(state + "snapshotCreate again", x.snapshotCreate(slot), true);
+                    Due.same(state + "the new snapshot", asActive(x, slot), active);
+                }
+            }));
     }
 
     private static void snapshotApply() {
@@ -226,18 +226,18 @@ public final class BoundarySnapshotTest {
             Seen.stays(state, x, Call.apply(slot), y -> Seen.slot(y, slot))));
         Due.holds(promise, "later changes of the active image do not change it",
             () -> eachHeld((state, x, slot) -> {
-            int[] before = Seen.slot(x, slot);
-            x.snapshotApply(slot);
-            for (int addr = 0; addr < x.guestWords(); addr++) {
-                x.write(addr, 8000 + addr);
-                Due.same(state + "the snapshot after a write", Seen.slot(x, slot), before);
-            }
-            x.snapshotApply(slot);
-            for (int cluster = 0; cluster < x.guestWords() / 4; cluster++) {
-                x.discard(cluster);
-                Due.same(state + "the snapshot after a discard", Seen.slot(x, slot), before);
-            }
-        }));
+                int[] before = Seen.slot(x, slot);
+                x.snapshotApply(slot);
+                for (int addr = 0; addr < x.guestWords(); addr++) {
+                    x.write(addr, 8000 + addr);
+                    Due.same(state + "the snapshot after a write", Seen.slot(x, slot), before);
+                }
+                x.snapshotApply(slot);
+                for (int cluster = 0; cluster < x.guestWords() / 4; cluster++) {
+                    x.discard(cluster);
+                    Due.same(state + "the snapshot after a discard", Seen.slot(x, slot), before);
+                }
+            }));
         Due.holds(promise, "The backing image is unchanged", () -> eachHeld((state, x, slot) ->
             Seen.stays(state, x, Call.apply(slot), Seen::backing)));
         Due.holds(promise, "every other snapshot is unchanged", () -> eachHeld((state, x, slot) -> {
@@ -323,18 +323,18 @@ public final class BoundarySnapshotTest {
         }));
         Due.holds(promise, "its own word if cluster addr / 4 is allocated in it, though it be 0",
             () -> {
-            QcowImage x = new QcowImage(4);
-            States.writeAllBacking(x, 1000);
-            for (int addr = 0; addr < 64; addr++) {
-                x.write(addr, addr % 2);
-            }
-            x.snapshotCreate(2);
-            x.commit();
-            States.writeAllBacking(x, 3000);
-            for (int addr = 0; addr < 64; addr++) {
-                Due.due("readSnapshot(2, " + addr + ")", x.readSnapshot(2, addr), addr % 2);
-            }
-        });
+                QcowImage x = new QcowImage(4);
+                States.writeAllBacking(x, 1000);
+                for (int addr = 0; addr < 64; addr++) {
+                    x.write(addr, addr % 2);
+                }
+                x.snapshotCreate(2);
+                x.commit();
+                States.writeAllBacking(x, 3000);
+                for (int addr = 0; addr < 64; addr++) {
+                    Due.due("readSnapshot(2, " + addr + ")", x.readSnapshot(2, addr), addr % 2);
+                }
+            });
         Due.holds(promise, "else backing word addr (as the backing image is now)", () -> {
             for (int l1Size = 1; l1Size <= 4; l1Size++) {
                 QcowImage x = States.make("snapshots of nothing", l1Size);
@@ -427,19 +427,19 @@ public final class BoundarySnapshotTest {
         }));
         Due.holds(promise, "Otherwise whether the guest cluster is allocated in it, 0 and G-1 too",
             () -> {
-            for (int l1Size = 1; l1Size <= 4; l1Size++) {
-                for (int cluster = 0; cluster < 4 * l1Size; cluster++) {
-                    QcowImage x = new QcowImage(l1Size);
-                    x.write(4 * cluster, 0);
-                    x.snapshotCreate(3);
-                    x.discard(cluster);
-                    for (int other = 0; other < 4 * l1Size; other++) {
-                        Due.due("isSnapshotAllocated(3, " + other + ")",
-                            x.isSnapshotAllocated(3, other), other == cluster);
+                for (int l1Size = 1; l1Size <= 4; l1Size++) {
+                    for (int cluster = 0; cluster < 4 * l1Size; cluster++) {
+                        QcowImage x = new QcowImage(l1Size);
+                        x.write(4 * cluster, 0);
+                        x.snapshotCreate(3);
+                        x.discard(cluster);
+                        for (int other = 0; other < 4 * l1Size; other++) {
+                            Due.due("isSnapshotAllocated(3, " + other + ")",
+                                x.isSnapshotAllocated(3, other), other == cluster);
+                        }
                     }
                 }
-            }
-        });
+            });
         Due.holds(promise, "Changes nothing", () -> States.each((state, maker) -> {
             for (int slot : new int[] {MIN, -1, 0, 1, 2, 3, 4, MAX}) {
                 for (int cluster : new int[] {MIN, -1, 0, 3, 4, 15, 16, MAX}) {

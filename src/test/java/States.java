@@ -11,7 +11,9 @@ final class States {
         void run(String state, Maker maker) throws Exception;
     }
 
-    static final String[] NAMES = {"new", "mixed", "shared", "full", "emptied", "snapshots of nothing"};
+    static final String[] NAMES = {
+        "new", "mixed", "shared", "full", "emptied", "holed", "snapshots of nothing"
+    };
 
     private States() {
     }
@@ -34,6 +36,7 @@ final class States {
             case "shared" -> share(x);
             case "full" -> fill(x);
             case "emptied" -> empty(x);
+            case "holed" -> hole(x);
             default -> snapshotNothing(x);
         }
         return x;
@@ -80,6 +83,17 @@ final class States {
             x.snapshotDelete(slot);
         }
         for (int cluster = 0; cluster < x.guestWords() / 4; cluster++) {
+            x.discard(cluster);
+        }
+    }
+
+    /** Free host clusters lie between used ones, and the last L2 table is still to be made. */
+    private static void hole(QcowImage x) {
+        writeAllBacking(x, 1000);
+        for (int addr = 0; addr < x.guestWords() - 16; addr += 4) {
+            x.write(addr, 2000 + addr);
+        }
+        for (int cluster = 0; cluster < x.guestWords() / 4; cluster += 2) {
             x.discard(cluster);
         }
     }
